@@ -260,6 +260,9 @@ public final class MeetingKit {
     }
 
     private boolean planInterrupt(int plan) {
+        if (interruptCount >= interrupts.length) {
+            return false;
+        }
         int place = interruptCount;
         for (int i = interruptCount - 1; i >= interruptsDone && interrupts[i] >= plan; i--) {
             place = i;

@@ -518,8 +518,7 @@ public final class MeetingKit {
 
         private void sweep(int beat) {
             int kept = 0;
-            int length = lineLength;
-            for (int i = 0; i < length; i++) {
+            for (int i = 0; i < lineLength; i++) {
                 Step step = waiter(i);
                 if (step == null) {
                     continue;
@@ -530,9 +529,6 @@ public final class MeetingKit {
                 } else {
                     finish(step, beat);
                 }
-            }
-            for (int i = kept; i < length; i++) {
-                line[i] = null;
             }
             lineLength = kept;
         }

@@ -92,5 +92,13 @@ public final class Kind03BarrierTest {
         Check.passed(kit, "only the one that began anew", 0, 0);
         kit.run(3);
         Check.line(kit, "it waits again", 0, 1);
+        kit.interrupt(1, 4);
+        Check.script(kit, 0, 0, 8, 0, 0, 1, 0, 0, 2, 0, 0, 0, 0);
+        kit.run(4);
+        Check.due("broken by an interrupt", kit.state(0, 4), 1);
+        kit.run(9);
+        Check.ended(kit, "anew", 0, 2, 0, 0, 5, 5);
+        Check.ended(kit, "not broken then", 0, 3, 0, 0, 6, 6);
+        Check.ended(kit, "it can be waited at again", 0, 4, 1, 0, 7, 0);
     }
 }

@@ -9,6 +9,7 @@ public final class Kind05LockTest {
         upgradeThatGivesUp();
         aFirstThatGivesUp();
         downgrade();
+        keptInterrupt();
         Check.end("lock");
     }
 
@@ -134,5 +135,24 @@ public final class Kind05LockTest {
         Check.line(kit, "the next user waits", 0, 2);
         kit.run(3);
         Check.ended(kit, "no user any more", 0, 2, 6, 0, 3, 3);
+    }
+
+    private static void keptInterrupt() {
+        MeetingKit kit = Check.kit(2, 5, 0);
+        Check.script(kit, 0, 0, 0, 0, 0, 3, 0, 0, 4, 0, 0, 2, 0, 0, 1, 0, 0, 4, 0, 0, 3, 0);
+        kit.interrupt(0, 1);
+        kit.run(6);
+        Check.ended(kit, "use", 0, 4, 0, 0, 5, 5);
+        Check.due("none of these waits", kit.tell(0, 3), 1);
+        Check.script(kit, 1, 0, 0, 0);
+        kit.run(7);
+        Check.ended(kit, "nor the upgrade of the only looker", 0, 6, 0, 0, 7, 7);
+        Check.due("kept", kit.tell(0, 3), 1);
+        Check.script(kit, 0, 0, 4, 0, 0, 3, 0);
+        kit.run(9);
+        Check.ended(kit, "another one looks", 1, 0, 0, 0, 7, 8);
+        Check.ended(kit, "so this one would wait", 0, 8, 2, 0, 9, 9);
+        Check.due("used up", kit.tell(0, 3), 0);
+        Check.due("it looks all the same", kit.state(0, 3), 2);
     }
 }

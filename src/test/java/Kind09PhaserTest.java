@@ -7,6 +7,7 @@ public final class Kind09PhaserTest {
         oneThatGaveUpCameAllTheSame();
         keptInterrupt();
         oneFromTheNextPhaseOnLeaves();
+        oneThatCameLeaves();
         Check.end("phaser");
     }
 
@@ -113,6 +114,16 @@ public final class Kind09PhaserTest {
         Check.line(kit, "no new phase", 0, 0);
         Check.script(kit, 1, 0, 1, 0);
         kit.run(6);
+        Check.due("parties", kit.state(0, 4), 2);
+    }
+
+    private static void oneThatCameLeaves() {
+        MeetingKit kit = oneCame(2, 1);
+        Check.script(kit, 0, 0, 2, 0, 0, 0, 0, 0, 1, 0);
+        kit.run(9);
+        Check.ended(kit, "the other one did not come", 0, 2, 0, 0, 4, 4);
+        Check.ended(kit, "no party came: one at once", 0, 3, 0, 0, 5, 5);
+        Check.ended(kit, "and it may come", 0, 4, 1, 0, 6, 0);
         Check.due("parties", kit.state(0, 4), 2);
     }
 }

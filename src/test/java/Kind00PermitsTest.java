@@ -12,7 +12,7 @@ public final class Kind00PermitsTest {
     }
 
     private static void bounds(int kind) {
-        MeetingKit kit = Check.kit(1, kind, 100);
+        Kit kit = Check.kit(1, kind, 100);
         Check.script(kit, 0, 0, 0, 0, 0, 0, 101, 0, 1, 0, 0, 1, 101, 0, 2, 0, 0, 2, 101, 0, 3, 1, 0, 0, -1);
         Check.script(kit, 0, 0, 0, 100, 0, 2, 1, 0, 1, 1, 0, 2, 1, 0, 1, 100, 0, 2, 99, 0, 0, 1);
         kit.run(99);
@@ -29,7 +29,7 @@ public final class Kind00PermitsTest {
     }
 
     private static void atMostAThousand(int kind) {
-        MeetingKit kit = Check.kit(1, kind, 100);
+        Kit kit = Check.kit(1, kind, 100);
         for (int i = 0; i < 8; i++) {
             Check.script(kit, 0, 0, 1, 100);
         }
@@ -42,8 +42,8 @@ public final class Kind00PermitsTest {
         Check.due("permits", kit.state(0, 3), 1000);
     }
 
-    private static MeetingKit crowd(int kind) {
-        MeetingKit kit = Check.kit(6, kind, 1, 10, 0);
+    private static Kit crowd(int kind) {
+        Kit kit = Check.kit(6, kind, 1, 10, 0);
         Check.script(kit, 0, 0, 0, 3);
         Check.script(kit, 1, 0, 0, 2);
         Check.script(kit, 2, 0, 0, 1);
@@ -55,7 +55,7 @@ public final class Kind00PermitsTest {
     }
 
     private static void unfair() {
-        MeetingKit kit = crowd(0);
+        Kit kit = crowd(0);
         Check.ended(kit, "goes ahead of those that wait", 2, 0, 0, 0, 1, 1);
         Check.ended(kit, "none is left", 3, 0, 7, 0, 1, 1);
         Check.line(kit, "two wait", 0, 0, 1);
@@ -70,7 +70,7 @@ public final class Kind00PermitsTest {
     }
 
     private static void fair() {
-        MeetingKit kit = crowd(1);
+        Kit kit = crowd(1);
         Check.ended(kit, "somebody waits", 2, 0, 1, 0, 1, 0);
         Check.ended(kit, "try has none", 3, 0, 7, 0, 1, 1);
         Check.due("though there is one", kit.state(0, 3), 1);
@@ -87,7 +87,7 @@ public final class Kind00PermitsTest {
     }
 
     private static void goingOutOfTheLine() {
-        MeetingKit kit = Check.kit(4, 1, 3);
+        Kit kit = Check.kit(4, 1, 3);
         kit.step(0, 0, 0, 9, 2);
         kit.step(1, 0, 0, 1, 2);
         Check.script(kit, 2, 0, 0, 5);

@@ -1,7 +1,7 @@
 /** Kind 2: a gate that counts down. */
 public final class Kind02GateTest {
     public static void main(String[] args) {
-        MeetingKit kit = Check.kit(3, 2, 2);
+        Kit kit = Check.kit(3, 2, 2);
         Check.script(kit, 0, 0, 0, 0, 0, 0, 0, 0, 2, 0);
         Check.script(kit, 1, 0, 1, 0, 0, 1, 0, 0, 1, 0);
         Check.script(kit, 2, 0, 0, 0);
@@ -18,7 +18,7 @@ public final class Kind02GateTest {
         Check.ended(kit, "open for good", 0, 1, 0, 0, 3, 3);
         Check.ended(kit, "misuse", 0, 2, 6, 0, 4, 4);
         Check.due("count", kit.state(0, 3), 0);
-        MeetingKit open = Check.kit(1, 2, 0);
+        Kit open = Check.kit(1, 2, 0);
         Check.script(open, 0, 0, 0, 0);
         open.run(9);
         Check.ended(open, "open from the first", 0, 0, 0, 0, 1, 1);

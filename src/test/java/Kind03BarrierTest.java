@@ -11,7 +11,7 @@ public final class Kind03BarrierTest {
     }
 
     private static void rounds() {
-        MeetingKit kit = Check.kit(3, 3, 3);
+        Kit kit = Check.kit(3, 3, 3);
         for (int t = 0; t < 3; t++) {
             Check.script(kit, t, 0, 0, 0, 0, 0, 0);
         }
@@ -25,7 +25,7 @@ public final class Kind03BarrierTest {
     }
 
     private static void alone() {
-        MeetingKit kit = Check.kit(1, 3, 1);
+        Kit kit = Check.kit(1, 3, 1);
         Check.script(kit, 0, 0, 0, 0, 0, 2, 0, 0, 3, 0);
         kit.run(9);
         Check.ended(kit, "the first is the last", 0, 0, 0, 0, 1, 1);
@@ -34,7 +34,7 @@ public final class Kind03BarrierTest {
     }
 
     private static void brokenByInterrupt() {
-        MeetingKit kit = Check.kit(3, 3, 3);
+        Kit kit = Check.kit(3, 3, 3);
         Check.script(kit, 0, 0, 0, 0, 0, 2, 0);
         Check.script(kit, 1, 0, 0, 0, 0, 0, 0);
         kit.interrupt(1, 2);
@@ -51,7 +51,7 @@ public final class Kind03BarrierTest {
     }
 
     private static void brokenByPatience() {
-        MeetingKit kit = Check.kit(2, 3, 3);
+        Kit kit = Check.kit(2, 3, 3);
         kit.step(0, 0, 0, 0, 2);
         kit.step(1, 0, 0, 0, 2);
         kit.run(9);
@@ -60,7 +60,7 @@ public final class Kind03BarrierTest {
     }
 
     private static void brokenByAKeptInterrupt() {
-        MeetingKit kit = Check.kit(2, 3, 3, 10, 0);
+        Kit kit = Check.kit(2, 3, 3, 10, 0);
         Check.script(kit, 0, 0, 0, 0);
         Check.script(kit, 1, 1, 2, 0, 0, 0, 0);
         kit.interrupt(1, 1);
@@ -68,7 +68,7 @@ public final class Kind03BarrierTest {
         Check.ended(kit, "as if it had begun to wait", 1, 1, 2, 0, 2, 2);
         Check.ended(kit, "broken", 0, 0, 5, 0, 1, 2);
         Check.due("broken", kit.state(0, 4), 1);
-        MeetingKit last = Check.kit(2, 3, 2);
+        Kit last = Check.kit(2, 3, 2);
         Check.script(last, 0, 0, 0, 0);
         Check.script(last, 1, 0, 0, 0);
         last.interrupt(1, 1);
@@ -78,7 +78,7 @@ public final class Kind03BarrierTest {
     }
 
     private static void anew() {
-        MeetingKit kit = Check.kit(3, 3, 3);
+        Kit kit = Check.kit(3, 3, 3);
         Check.script(kit, 1, 0, 0, 0, 0, 0, 0);
         Check.script(kit, 2, 0, 0, 0);
         kit.run(1);

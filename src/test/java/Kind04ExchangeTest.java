@@ -1,7 +1,7 @@
 /** Kind 4: an exchange of pairs. */
 public final class Kind04ExchangeTest {
     public static void main(String[] args) {
-        MeetingKit kit = Check.kit(3, 4, 0);
+        Kit kit = Check.kit(3, 4, 0);
         Check.script(kit, 0, 0, 0, -1000000, 0, 1, 0);
         Check.script(kit, 1, 0, 0, 1000000);
         Check.script(kit, 2, 0, 0, 5);

@@ -14,7 +14,7 @@ public final class Kind05LockTest {
     }
 
     private static void misuse() {
-        MeetingKit kit = Check.kit(1, 5, 0);
+        Kit kit = Check.kit(1, 5, 0);
         Check.script(kit, 0, 0, 2, 0, 0, 3, 0, 0, 4, 0, 0, 5, 0);
         Check.script(kit, 0, 0, 0, 0, 0, 0, 0, 0, 1, 0, 0, 4, 0);
         Check.script(kit, 0, 0, 2, 0, 0, 1, 0, 0, 1, 0, 0, 0, 0, 0, 3, 0, 0, 2, 0, 0, 2, 0);
@@ -26,7 +26,7 @@ public final class Kind05LockTest {
     }
 
     private static void lookersAndUsers() {
-        MeetingKit kit = Check.kit(4, 5, 0);
+        Kit kit = Check.kit(4, 5, 0);
         Check.script(kit, 0, 0, 0, 0, 0, 2, 0);
         Check.script(kit, 1, 0, 0, 0, 0, 2, 0);
         Check.script(kit, 2, 0, 1, 0, 0, 2, 0);
@@ -45,7 +45,7 @@ public final class Kind05LockTest {
     }
 
     private static void lookersWaitBehindAUser() {
-        MeetingKit kit = Check.kit(5, 5, 0);
+        Kit kit = Check.kit(5, 5, 0);
         Check.script(kit, 0, 0, 1, 0, 0, 2, 0);
         Check.script(kit, 1, 0, 0, 0);
         Check.script(kit, 2, 0, 0, 0);
@@ -60,7 +60,7 @@ public final class Kind05LockTest {
     }
 
     private static void upgradeWaitsForTheOtherLookers() {
-        MeetingKit kit = Check.kit(4, 5, 0);
+        Kit kit = Check.kit(4, 5, 0);
         Check.script(kit, 0, 0, 0, 0, 0, 3, 0);
         Check.script(kit, 1, 0, 0, 0, 0, 3, 0, 0, 2, 0);
         Check.script(kit, 2, 0, 0, 0);
@@ -81,7 +81,7 @@ public final class Kind05LockTest {
     }
 
     private static void upgradeOfTheOnlyLooker() {
-        MeetingKit kit = Check.kit(3, 5, 0);
+        Kit kit = Check.kit(3, 5, 0);
         Check.script(kit, 0, 0, 0, 0, 0, 3, 0);
         Check.script(kit, 1, 0, 1, 0);
         Check.script(kit, 2, 0, 0, 0);
@@ -92,7 +92,7 @@ public final class Kind05LockTest {
     }
 
     private static void upgradeThatGivesUp() {
-        MeetingKit kit = Check.kit(3, 5, 0);
+        Kit kit = Check.kit(3, 5, 0);
         Check.script(kit, 0, 0, 0, 0);
         kit.step(0, 0, 3, 0, 2);
         Check.script(kit, 1, 0, 0, 0);
@@ -110,7 +110,7 @@ public final class Kind05LockTest {
     }
 
     private static void aFirstThatGivesUp() {
-        MeetingKit kit = Check.kit(3, 5, 0);
+        Kit kit = Check.kit(3, 5, 0);
         Check.script(kit, 0, 0, 0, 0);
         kit.step(1, 0, 1, 0, 3);
         Check.script(kit, 2, 0, 0, 0);
@@ -120,7 +120,7 @@ public final class Kind05LockTest {
     }
 
     private static void downgrade() {
-        MeetingKit kit = Check.kit(4, 5, 0);
+        Kit kit = Check.kit(4, 5, 0);
         Check.script(kit, 0, 0, 1, 0, 0, 4, 0, 0, 4, 0);
         Check.script(kit, 1, 0, 0, 0);
         Check.script(kit, 2, 0, 1, 0);
@@ -138,7 +138,7 @@ public final class Kind05LockTest {
     }
 
     private static void keptInterrupt() {
-        MeetingKit kit = Check.kit(2, 5, 0);
+        Kit kit = Check.kit(2, 5, 0);
         Check.script(kit, 0, 0, 0, 0, 0, 3, 0, 0, 4, 0, 0, 2, 0, 0, 1, 0, 0, 4, 0, 0, 3, 0);
         kit.interrupt(0, 1);
         kit.run(6);

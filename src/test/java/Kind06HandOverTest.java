@@ -9,7 +9,7 @@ public final class Kind06HandOverTest {
     }
 
     private static void inOrder() {
-        MeetingKit kit = Check.kit(4, 6, 2);
+        Kit kit = Check.kit(4, 6, 2);
         Check.script(kit, 0, 0, 0, 1, 0, 0, 2, 0, 0, 3);
         kit.run(9);
         Check.due("two lie there", kit.state(0, 3), 2);
@@ -31,7 +31,7 @@ public final class Kind06HandOverTest {
     }
 
     private static void putForOneThatWaits() {
-        MeetingKit kit = Check.kit(3, 6, 2);
+        Kit kit = Check.kit(3, 6, 2);
         Check.script(kit, 0, 0, 1, 0);
         Check.script(kit, 1, 0, 1, 0);
         Check.script(kit, 2, 0, 0, 7, 0, 0, 8, 0, 0, 9, 0, 2, 0);
@@ -45,7 +45,7 @@ public final class Kind06HandOverTest {
     }
 
     private static void withoutRoom() {
-        MeetingKit kit = Check.kit(3, 6, 0);
+        Kit kit = Check.kit(3, 6, 0);
         Check.script(kit, 0, 0, 0, 5);
         Check.script(kit, 1, 0, 0, 6);
         Check.script(kit, 2, 0, 1, 0, 0, 1, 0, 0, 1, 0);
@@ -61,7 +61,7 @@ public final class Kind06HandOverTest {
     }
 
     private static void allItsRoom() {
-        MeetingKit kit = Check.kit(2, 6, 8);
+        Kit kit = Check.kit(2, 6, 8);
         for (int i = 0; i < 9; i++) {
             Check.script(kit, 0, 0, 0, 10 + i);
             Check.script(kit, 1, 0, 2, 0);

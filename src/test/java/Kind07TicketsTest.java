@@ -1,7 +1,7 @@
 /** Kind 7: a line of tickets. */
 public final class Kind07TicketsTest {
     public static void main(String[] args) {
-        MeetingKit kit = Check.kit(4, 7, 0);
+        Kit kit = Check.kit(4, 7, 0);
         Check.script(kit, 0, 0, 0, 0, 0, 0, 0, 0, 1, 1, 0, 1, 0);
         Check.script(kit, 1, 0, 1, 1, 0, 1, -1, 0, 1, 1, 0, 3, 0);
         Check.script(kit, 2, 0, 1, 0, 0, 1, 2);

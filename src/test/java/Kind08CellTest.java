@@ -1,7 +1,7 @@
 /** Kind 8: a cell set once. */
 public final class Kind08CellTest {
     public static void main(String[] args) {
-        MeetingKit kit = Check.kit(3, 8, 0);
+        Kit kit = Check.kit(3, 8, 0);
         Check.script(kit, 0, 0, 1, 0, 0, 1, 0, 0, 2, 0);
         Check.script(kit, 1, 0, 1, 0);
         Check.script(kit, 2, 0, 0, -3, 0, 0, -3, 0, 0, 4);

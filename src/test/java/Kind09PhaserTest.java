@@ -12,7 +12,7 @@ public final class Kind09PhaserTest {
     }
 
     private static void phases() {
-        MeetingKit kit = Check.kit(2, 9, 0);
+        Kit kit = Check.kit(2, 9, 0);
         Check.script(kit, 0, 0, 1, 0, 0, 2, 0, 0, 0, 0, 0, 0, 0, 0, 1, 0, 0, 3, 0);
         kit.run(99);
         Check.ended(kit, "no party comes", 0, 0, 6, 0, 1, 1);
@@ -34,8 +34,8 @@ public final class Kind09PhaserTest {
     }
 
     /** Threads 0 and 1 are parties, and 0 came in phase 0. */
-    private static MeetingKit oneCame(int threads, int patience) {
-        MeetingKit kit = Check.kit(threads, 9, 0);
+    private static Kit oneCame(int threads, int patience) {
+        Kit kit = Check.kit(threads, 9, 0);
         Check.script(kit, 0, 0, 0, 0);
         Check.script(kit, 1, 0, 0, 0);
         kit.step(0, 0, 1, 0, patience);
@@ -45,7 +45,7 @@ public final class Kind09PhaserTest {
     }
 
     private static void joinForTheNextPhase() {
-        MeetingKit kit = oneCame(3, 0);
+        Kit kit = oneCame(3, 0);
         Check.script(kit, 2, 0, 0, 0, 0, 1, 0, 0, 0, 0);
         kit.run(5);
         Check.ended(kit, "join", 2, 0, 0, 0, 3, 3);
@@ -62,7 +62,7 @@ public final class Kind09PhaserTest {
     }
 
     private static void leaveMakesAPhase() {
-        MeetingKit kit = oneCame(3, 0);
+        Kit kit = oneCame(3, 0);
         Check.script(kit, 2, 0, 0, 0);
         kit.run(3);
         Check.script(kit, 1, 0, 2, 0);
@@ -82,7 +82,7 @@ public final class Kind09PhaserTest {
     }
 
     private static void oneThatGaveUpCameAllTheSame() {
-        MeetingKit kit = oneCame(2, 2);
+        Kit kit = oneCame(2, 2);
         Check.script(kit, 0, 0, 1, 0);
         kit.run(5);
         Check.ended(kit, "its patience is over", 0, 1, 3, 0, 2, 4);
@@ -96,7 +96,7 @@ public final class Kind09PhaserTest {
     }
 
     private static void keptInterrupt() {
-        MeetingKit kit = Check.kit(2, 9, 0);
+        Kit kit = Check.kit(2, 9, 0);
         Check.script(kit, 0, 0, 0, 0, 0, 1, 0);
         Check.script(kit, 1, 0, 0, 0, 0, 0, 0, 0, 1, 0);
         kit.interrupt(0, 1);
@@ -106,7 +106,7 @@ public final class Kind09PhaserTest {
     }
 
     private static void oneFromTheNextPhaseOnLeaves() {
-        MeetingKit kit = oneCame(3, 0);
+        Kit kit = oneCame(3, 0);
         Check.script(kit, 2, 0, 0, 0, 0, 2, 0, 0, 2, 0);
         kit.run(5);
         Check.ended(kit, "one here", 2, 1, 0, 0, 4, 4);
@@ -118,7 +118,7 @@ public final class Kind09PhaserTest {
     }
 
     private static void oneThatCameLeaves() {
-        MeetingKit kit = oneCame(2, 1);
+        Kit kit = oneCame(2, 1);
         Check.script(kit, 0, 0, 2, 0, 0, 0, 0, 0, 1, 0);
         kit.run(9);
         Check.ended(kit, "the other one did not come", 0, 2, 0, 0, 4, 4);

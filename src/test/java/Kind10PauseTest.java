@@ -1,7 +1,7 @@
 /** Kind 10: a pause. */
 public final class Kind10PauseTest {
     public static void main(String[] args) {
-        MeetingKit kit = Check.kit(3, 10, 0);
+        Kit kit = Check.kit(3, 10, 0);
         Check.script(kit, 0, 0, 2, 0, 0, 0, 0, 0, 0, 0, 0, 1, 0, 0, 1, 0, 0, 3, 0);
         Check.script(kit, 1, 0, 9, 0, 0, 2, 0);
         Check.script(kit, 2, 0, 9, 0, 0, 2, 0, 0, 2, 0);

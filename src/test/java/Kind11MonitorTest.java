@@ -11,7 +11,7 @@ public final class Kind11MonitorTest {
     }
 
     private static void misuse() {
-        MeetingKit kit = Check.kit(1, 11, 0);
+        Kit kit = Check.kit(1, 11, 0);
         Check.script(kit, 0, 0, 1, 0, 0, 2, 0, 0, 3, 0, 0, 4, 0, 0, 5, 0, 0, 0, 0, 0, 0, 0);
         Check.script(kit, 0, 0, 2, 4, 0, 2, -1, 0, 3, 4, 0, 3, -1, 0, 4, 4, 0, 4, -1, 0, 5, 0);
         Check.script(kit, 0, 0, 3, 3, 0, 4, 0, 0, 1, 0, 0, 1, 0);
@@ -24,7 +24,7 @@ public final class Kind11MonitorTest {
     }
 
     private static void enterAndLeave() {
-        MeetingKit kit = Check.kit(3, 11, 0);
+        Kit kit = Check.kit(3, 11, 0);
         Check.script(kit, 0, 0, 0, 0, 0, 1, 0);
         Check.script(kit, 1, 0, 0, 0, 0, 1, 0);
         Check.script(kit, 2, 0, 0, 0);
@@ -40,8 +40,8 @@ public final class Kind11MonitorTest {
     }
 
     /** Threads 0, 1, 2 wait in lines 1, 3, 1; nobody holds the monitor. */
-    private static MeetingKit three(int patience) {
-        MeetingKit kit = Check.kit(5, 11, 0);
+    private static Kit three(int patience) {
+        Kit kit = Check.kit(5, 11, 0);
         int[] lines = {1, 3, 1};
         for (int t = 0; t < 3; t++) {
             Check.script(kit, t, 0, 0, 0);
@@ -54,7 +54,7 @@ public final class Kind11MonitorTest {
     }
 
     private static void wakeOne() {
-        MeetingKit kit = three(0);
+        Kit kit = three(0);
         Check.script(kit, 3, 0, 0, 0, 0, 3, 0, 0, 3, 1, 0, 1, 0);
         kit.run(5);
         Check.ended(kit, "those in lines do not wait to enter", 3, 0, 0, 0, 5, 5);
@@ -71,7 +71,7 @@ public final class Kind11MonitorTest {
     }
 
     private static void wakeAll() {
-        MeetingKit kit = three(0);
+        Kit kit = three(0);
         Check.script(kit, 3, 0, 0, 0, 0, 4, 1, 0, 1, 0);
         Check.script(kit, 4, 0, 0, 0);
         kit.run(6);
@@ -86,7 +86,7 @@ public final class Kind11MonitorTest {
     }
 
     private static void givingUp() {
-        MeetingKit kit = three(20);
+        Kit kit = three(20);
         kit.interrupt(1, 5);
         Check.script(kit, 3, 0, 0, 0, 0, 3, 1);
         kit.run(99);
@@ -97,7 +97,7 @@ public final class Kind11MonitorTest {
     }
 
     private static void keptInterrupt() {
-        MeetingKit kit = Check.kit(2, 11, 0);
+        Kit kit = Check.kit(2, 11, 0);
         Check.script(kit, 0, 0, 0, 0, 0, 2, 0, 0, 1, 0);
         Check.script(kit, 1, 0, 0, 0);
         kit.interrupt(0, 1);

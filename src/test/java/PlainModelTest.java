@@ -5,8 +5,13 @@ public final class PlainModelTest {
     private static final int[] ACTS = {3, 3, 2, 3, 1, 5, 2, 3, 2, 3, 3, 5};
     private static final int[] MOST_N = {4, 4, 4, 4, 0, 0, 2, 0, 0, 0, 0, 0};
 
+    private static final int RUNS = 40000;
+    private static final int ROUNDS = 6;
+    /** After each round but the last: so few that an object's calls suffice for the steps of later rounds. */
+    private static final int QUESTIONS = 12;
+
     private final Random random;
-    private final MeetingKit kit = new MeetingKit();
+    private final Kit kit = new Kit();
     private final PlainModel model = new PlainModel();
     private final int[] kinds = new int[12];
     private int deviceCount = 0;
@@ -18,13 +23,13 @@ public final class PlainModelTest {
     }
 
     public static void main(String[] args) {
-        for (int seed = 0; seed < 6000; seed++) {
+        for (int seed = 0; seed < RUNS; seed++) {
             PlainModelTest run = new PlainModelTest(seed);
             run.prepare(seed % 13);
-            for (int round = 0; round < 6; round++) {
+            for (int round = 1; round <= ROUNDS; round++) {
                 run.change();
                 run.goOn();
-                run.compareAll("seed " + seed + ", round " + round);
+                run.ask("seed " + seed + ", round " + round, round == ROUNDS ? run.kit.callsLeft() : QUESTIONS);
             }
         }
         Check.end("plain model");
@@ -83,26 +88,46 @@ public final class PlainModelTest {
         reached = got;
     }
 
-    private void compareAll(String where) {
-        for (int t = 0; t < threadCount; t++) {
-            for (int what = 0; what < 4; what++) {
-                Check.due(where + " tell", kit.tell(t, what), model.tell(t, what));
-                for (int i = 0; i < 21; i++) {
-                    Check.due(where + " outcome", kit.outcome(t, i, what), model.outcome(t, i, what));
-                }
+    private void ask(String where, int questions) {
+        for (int q = 0; q < questions; q++) {
+            int thread = random.nextInt(threadCount + 1);
+            int device = random.nextInt(deviceCount + 1);
+            if (random.nextInt(2) == 0) {
+                askOfThread(where, thread, random.nextInt(5));
+            } else {
+                askOfDevice(where, device, random.nextInt(6));
             }
-            Check.due(where + " stuck", kit.stuck(t), model.stuck(t));
         }
-        for (int d = 0; d < deviceCount; d++) {
-            for (int what = 0; what < 5; what++) {
-                Check.due(where + " state", kit.state(d, what), model.state(d, what));
-            }
-            for (int i = 0; i < 17; i++) {
-                Check.due(where + " waiting", kit.waiting(d, i), model.waiting(d, i));
-            }
-            for (int i = 0; i < 50; i++) {
-                Check.due(where + " passed", kit.passed(d, i), model.passed(d, i));
-            }
+    }
+
+    private void askOfThread(String where, int thread, int what) {
+        int i = random.nextInt(Math.max(0, model.tell(thread, 0)) + 1);
+        switch (random.nextInt(6)) {
+            case 0:
+                Check.due(where + " tell", kit.tell(thread, what), model.tell(thread, what));
+                break;
+            case 1:
+                Check.due(where + " stuck", kit.stuck(thread), model.stuck(thread));
+                break;
+            default:
+                Check.due(where + " outcome", kit.outcome(thread, i, what), model.outcome(thread, i, what));
+                break;
+        }
+    }
+
+    private void askOfDevice(String where, int device, int what) {
+        switch (random.nextInt(3)) {
+            case 0:
+                Check.due(where + " state", kit.state(device, what), model.state(device, what));
+                break;
+            case 1:
+                int place = random.nextInt(threadCount + 1);
+                Check.due(where + " waiting", kit.waiting(device, place), model.waiting(device, place));
+                break;
+            default:
+                int i = random.nextInt(50);
+                Check.due(where + " passed", kit.passed(device, i), model.passed(device, i));
+                break;
         }
     }
 }

@@ -4,7 +4,7 @@ public final class Promise02DeviceTest {
     private static final int[] MOST = {100, 100, 100, 16, 0, 0, 8, 0, 0, 0, 0, 0};
 
     public static void main(String[] args) {
-        MeetingKit kit = new MeetingKit();
+        Kit kit = new Kit();
         Check.due("kind -1", kit.device(-1, 0), MeetingKit.NONE);
         Check.due("kind 12", kit.device(12, 0), MeetingKit.NONE);
         Check.due("kind least int", kit.device(Integer.MIN_VALUE, 0), MeetingKit.NONE);
@@ -24,7 +24,7 @@ public final class Promise02DeviceTest {
     }
 
     private static void least() {
-        MeetingKit kit = new MeetingKit();
+        Kit kit = new Kit();
         for (int kind = 0; kind < 12; kind++) {
             Check.due("least n of kind " + kind, kit.device(kind, LEAST[kind]), kind);
             Check.due("nobody waits", kit.state(kind, 1), 0);

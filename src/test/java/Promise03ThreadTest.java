@@ -1,7 +1,7 @@
 /** Promise 3: thread makes up to 16 threads, without steps. */
 public final class Promise03ThreadTest {
     public static void main(String[] args) {
-        MeetingKit kit = new MeetingKit();
+        Kit kit = new Kit();
         for (int t = 0; t < 16; t++) {
             Check.due("not there yet", kit.tell(t, 0), MeetingKit.NONE);
             Check.due("thread", kit.thread(), t);
@@ -18,7 +18,7 @@ public final class Promise03ThreadTest {
     }
 
     private static void betweenRuns() {
-        MeetingKit kit = Check.kit(1, 2, 0);
+        Kit kit = Check.kit(1, 2, 0);
         Check.script(kit, 0, 0, 0, 0);
         Check.due("run", kit.run(9), 1);
         Check.due("a thread between runs", kit.thread(), 1);

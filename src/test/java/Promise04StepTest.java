@@ -1,7 +1,7 @@
 /** Promise 4: step puts a step behind a thread's script, or refuses it and changes nothing. */
 public final class Promise04StepTest {
     public static void main(String[] args) {
-        MeetingKit kit = Check.kit(2, 0, 5, 2, 1);
+        Kit kit = Check.kit(2, 0, 5, 2, 1);
         refused(kit, "thread -1", -1, 0, 0, 1, 0);
         refused(kit, "thread 2", 2, 0, 0, 1, 0);
         refused(kit, "device -1", 0, -1, 0, 1, 0);
@@ -33,7 +33,7 @@ public final class Promise04StepTest {
         Check.end("promise 4");
     }
 
-    private static void refused(MeetingKit kit, String what, int thread, int device, int act, int a, int patience) {
+    private static void refused(Kit kit, String what, int thread, int device, int act, int a, int patience) {
         Check.due(what, kit.step(thread, device, act, a, patience), MeetingKit.NONE);
         Check.due(what + " changes nothing", kit.tell(0, 0), 0);
     }

@@ -13,7 +13,7 @@ public final class Promise05InterruptTest {
     }
 
     private static void refusals() {
-        MeetingKit kit = Check.kit(2, 2, 1);
+        Kit kit = Check.kit(2, 2, 1);
         Check.due("thread -1", kit.interrupt(-1, 1), false);
         Check.due("thread 2", kit.interrupt(2, 1), false);
         Check.due("beat 0", kit.interrupt(0, 0), false);
@@ -34,7 +34,7 @@ public final class Promise05InterruptTest {
     }
 
     private static void twoHundred() {
-        MeetingKit kit = Check.kit(1, 2, 1, 2, 1);
+        Kit kit = Check.kit(1, 2, 1, 2, 1);
         for (int i = 0; i < 199; i++) {
             Check.due("plan", kit.interrupt(0, 300 - i), true);
         }
@@ -49,7 +49,7 @@ public final class Promise05InterruptTest {
     }
 
     private static void oneThatWaits() {
-        MeetingKit kit = Check.kit(1, 2, 1);
+        Kit kit = Check.kit(1, 2, 1);
         Check.script(kit, 0, 0, 0, 0, 0, 1, 0);
         kit.interrupt(0, 4);
         Check.due("run", kit.run(4), 4);
@@ -61,7 +61,7 @@ public final class Promise05InterruptTest {
     }
 
     private static void keptForTheNextWait() {
-        MeetingKit kit = Check.kit(1, 2, 1, 10, 0);
+        Kit kit = Check.kit(1, 2, 1, 10, 0);
         Check.script(kit, 0, 1, 2, 0, 0, 0, 0, 0, 0, 0);
         kit.interrupt(0, 1);
         Check.due("run", kit.run(1), 1);
@@ -77,7 +77,7 @@ public final class Promise05InterruptTest {
     }
 
     private static void keptByThoseThatDoNotWait() {
-        MeetingKit kit = Check.kit(1, 0, 0, 2, 1);
+        Kit kit = Check.kit(1, 0, 0, 2, 1);
         Check.script(kit, 0, 0, 2, 1, 0, 0, 0, 1, 0, 0);
         kit.interrupt(0, 1);
         kit.close(1, 3);
@@ -89,7 +89,7 @@ public final class Promise05InterruptTest {
     }
 
     private static void onlyOneIsKept() {
-        MeetingKit kit = Check.kit(1, 2, 1);
+        Kit kit = Check.kit(1, 2, 1);
         kit.interrupt(0, 2);
         kit.interrupt(0, 3);
         Check.due("run", kit.run(9), 3);
@@ -101,7 +101,7 @@ public final class Promise05InterruptTest {
     }
 
     private static void aheadOfClosingAndPatience() {
-        MeetingKit kit = Check.kit(3, 2, 1);
+        Kit kit = Check.kit(3, 2, 1);
         kit.step(0, 0, 0, 0, 2);
         kit.step(1, 0, 0, 0, 2);
         kit.step(2, 0, 0, 0, 1);
@@ -114,7 +114,7 @@ public final class Promise05InterruptTest {
     }
 
     private static void byThreadsWhateverTheOrderOfPlanning() {
-        MeetingKit kit = Check.kit(2, 3, 3);
+        Kit kit = Check.kit(2, 3, 3);
         Check.script(kit, 0, 0, 0, 0);
         Check.script(kit, 1, 0, 0, 0);
         kit.interrupt(1, 5);

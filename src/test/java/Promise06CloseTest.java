@@ -10,7 +10,7 @@ public final class Promise06CloseTest {
     }
 
     private static void refusals() {
-        MeetingKit kit = Check.kit(1, 2, 1, 2, 1);
+        Kit kit = Check.kit(1, 2, 1, 2, 1);
         Check.due("device -1", kit.close(-1, 1), false);
         Check.due("device 2", kit.close(2, 1), false);
         Check.due("beat 0", kit.close(0, 0), false);
@@ -29,7 +29,7 @@ public final class Promise06CloseTest {
         Check.due("done", kit.close(0, 9), false);
         Check.due("run up to the last plan", kit.run(5000), 5000);
         Check.due("closed", kit.state(1, 2), 1);
-        MeetingKit later = Check.kit(1, 2, 1);
+        Kit later = Check.kit(1, 2, 1);
         later.interrupt(0, 3);
         later.run(3);
         Check.due("the one reached", later.close(0, 3), false);
@@ -37,7 +37,7 @@ public final class Promise06CloseTest {
     }
 
     private static void closing() {
-        MeetingKit kit = Check.kit(3, 2, 5, 10, 0);
+        Kit kit = Check.kit(3, 2, 5, 10, 0);
         Check.script(kit, 0, 0, 0, 0, 0, 0, 0, 1, 2, 0);
         Check.script(kit, 1, 0, 0, 0);
         Check.script(kit, 2, 0, 1, 0);
@@ -55,7 +55,7 @@ public final class Promise06CloseTest {
     }
 
     private static void closingLetsNobodyElseGo() {
-        MeetingKit kit = Check.kit(2, 1, 1);
+        Kit kit = Check.kit(2, 1, 1);
         Check.script(kit, 0, 0, 0, 5);
         Check.script(kit, 1, 0, 0, 1);
         kit.close(0, 2);
@@ -66,7 +66,7 @@ public final class Promise06CloseTest {
     }
 
     private static void closingBreaksNoBarrier() {
-        MeetingKit kit = Check.kit(1, 3, 2);
+        Kit kit = Check.kit(1, 3, 2);
         Check.script(kit, 0, 0, 0, 0);
         kit.close(0, 2);
         Check.due("run", kit.run(9), 2);
@@ -75,7 +75,7 @@ public final class Promise06CloseTest {
     }
 
     private static void everyStepThatBeginsThereLater() {
-        MeetingKit kit = Check.kit(1, 0, 9);
+        Kit kit = Check.kit(1, 0, 9);
         Check.script(kit, 0, 0, 0, 1, 0, 1, 1, 0, 2, 1, 0, 9, 0, 0, 0, 0);
         kit.close(0, 1);
         Check.due("run", kit.run(9), 5);

@@ -13,7 +13,7 @@ public final class Promise07RunTest {
     }
 
     private static void bounds() {
-        MeetingKit kit = Check.kit(1, 2, 1);
+        Kit kit = Check.kit(1, 2, 1);
         Check.script(kit, 0, 0, 1, 0);
         Check.due("5001", kit.run(5001), MeetingKit.NONE);
         Check.due("-1", kit.run(-1), MeetingKit.NONE);
@@ -28,7 +28,7 @@ public final class Promise07RunTest {
     }
 
     private static void howFar() {
-        MeetingKit kit = Check.kit(2, 2, 1);
+        Kit kit = Check.kit(2, 2, 1);
         Check.due("no steps", kit.run(50), 0);
         Check.script(kit, 0, 0, 0, 0, 0, 0, 0);
         Check.due("waits for ever", kit.run(50), 1);
@@ -41,7 +41,7 @@ public final class Promise07RunTest {
     }
 
     private static void patience() {
-        MeetingKit kit = Check.kit(3, 2, 1);
+        Kit kit = Check.kit(3, 2, 1);
         kit.step(0, 0, 0, 0, 1);
         kit.step(1, 0, 0, 0, 2);
         kit.step(2, 0, 0, 0, 1000);
@@ -54,7 +54,7 @@ public final class Promise07RunTest {
         Check.ended(kit, "patience ends ahead of what others do", 1, 0, 3, 0, 1, 3);
         Check.ended(kit, "let go in time", 2, 0, 0, 0, 1, 3);
         Check.due("run", kit.run(5000), 3);
-        MeetingKit longest = Check.kit(5, 2, 1);
+        Kit longest = Check.kit(5, 2, 1);
         for (int t = 0; t < 5; t++) {
             for (int i = 0; i < 6; i++) {
                 longest.step(t, 0, 0, 0, 1000);
@@ -71,7 +71,7 @@ public final class Promise07RunTest {
     }
 
     private static void threadsByNumber() {
-        MeetingKit kit = Check.kit(3, 7, 0);
+        Kit kit = Check.kit(3, 7, 0);
         Check.script(kit, 2, 0, 0, 0);
         Check.script(kit, 1, 0, 0, 0);
         Check.script(kit, 0, 0, 0, 0);
@@ -82,7 +82,7 @@ public final class Promise07RunTest {
     }
 
     private static void oneStepABeat() {
-        MeetingKit kit = Check.kit(1, 7, 0);
+        Kit kit = Check.kit(1, 7, 0);
         Check.script(kit, 0, 0, 0, 0, 0, 5, 0, 0, 2, 0);
         Check.due("run", kit.run(2), 2);
         Check.ended(kit, "first", 0, 0, 0, 0, 1, 1);
@@ -92,7 +92,7 @@ public final class Promise07RunTest {
     }
 
     private static void letGoInThisBeat() {
-        MeetingKit kit = Check.kit(3, 10, 0);
+        Kit kit = Check.kit(3, 10, 0);
         Check.script(kit, 1, 0, 0, 0, 0, 1, 0);
         Check.script(kit, 2, 0, 2, 0, 0, 2, 0);
         Check.script(kit, 0, 0, 2, 0);
@@ -103,7 +103,7 @@ public final class Promise07RunTest {
         Check.ended(kit, "its next one not in this beat", 2, 1, 8, 0, 0, 0);
         Check.due("run", kit.run(9), 3);
         Check.ended(kit, "but in the next", 2, 1, 0, 0, 3, 3);
-        MeetingKit same = Check.kit(2, 4, 0);
+        Kit same = Check.kit(2, 4, 0);
         Check.script(same, 0, 0, 0, 1, 0, 0, 2);
         Check.script(same, 1, 0, 0, 3, 0, 0, 4);
         Check.due("run", same.run(1), 1);
@@ -114,7 +114,7 @@ public final class Promise07RunTest {
     }
 
     private static void goesOnBetweenRuns() {
-        MeetingKit kit = Check.kit(1, 2, 1);
+        Kit kit = Check.kit(1, 2, 1);
         Check.script(kit, 0, 0, 0, 0);
         Check.due("run", kit.run(9), 1);
         Check.due("a device", kit.device(8, 0), 1);
@@ -126,7 +126,7 @@ public final class Promise07RunTest {
     }
 
     private static void laterPlansKeepItGoing() {
-        MeetingKit kit = Check.kit(1, 2, 1);
+        Kit kit = Check.kit(1, 2, 1);
         kit.interrupt(0, 40);
         kit.close(0, 60);
         Check.due("run", kit.run(30), 30);

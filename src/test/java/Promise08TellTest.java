@@ -1,7 +1,7 @@
 /** Promise 8: tell answers a thread's steps, those begun, where it waits, and whether an interrupt is kept for it. */
 public final class Promise08TellTest {
     public static void main(String[] args) {
-        MeetingKit kit = Check.kit(2, 10, 0, 2, 1);
+        Kit kit = Check.kit(2, 10, 0, 2, 1);
         Check.script(kit, 0, 0, 2, 0, 1, 0, 0, 1, 0, 0);
         kit.interrupt(1, 2);
         kit.interrupt(0, 4);
@@ -20,13 +20,13 @@ public final class Promise08TellTest {
         Check.end("promise 8");
     }
 
-    private static void told(MeetingKit kit, int thread, int... want) {
+    private static void told(Kit kit, int thread, int... want) {
         for (int what = 0; what < want.length; what++) {
             Check.due("tell(" + thread + ", " + what + ")", kit.tell(thread, what), want[what]);
         }
     }
 
-    private static void wrongInputs(MeetingKit kit) {
+    private static void wrongInputs(Kit kit) {
         int[] wrong = {Integer.MIN_VALUE, -1, 4, Integer.MAX_VALUE};
         for (int w : wrong) {
             Check.due("what " + w, kit.tell(0, w), MeetingKit.NONE);

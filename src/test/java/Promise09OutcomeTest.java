@@ -8,7 +8,7 @@ public final class Promise09OutcomeTest {
     }
 
     private static void allOutcomes() {
-        MeetingKit kit = Check.kit(4, 0, 3, 2, 1, 3, 2, 2, 1);
+        Kit kit = Check.kit(4, 0, 3, 2, 1, 3, 2, 2, 1);
         Check.script(kit, 0, 0, 0, 1, 0, 0, 0, 0, 2, 9, 1, 0, 0);
         kit.step(1, 1, 0, 0, 2);
         Check.script(kit, 1, 0, 1, 2);
@@ -35,7 +35,7 @@ public final class Promise09OutcomeTest {
     }
 
     private static void valueOfOneThatWaits() {
-        MeetingKit kit = Check.kit(3, 3, 3);
+        Kit kit = Check.kit(3, 3, 3);
         Check.script(kit, 0, 0, 0, 0);
         Check.script(kit, 1, 0, 0, 0);
         kit.run(1);
@@ -52,7 +52,7 @@ public final class Promise09OutcomeTest {
     }
 
     private static void wrongInputs() {
-        MeetingKit kit = Check.kit(2, 0, 3);
+        Kit kit = Check.kit(2, 0, 3);
         Check.script(kit, 0, 0, 0, 1);
         int[] wrong = {Integer.MIN_VALUE, -1, 4, Integer.MAX_VALUE};
         for (int w : wrong) {

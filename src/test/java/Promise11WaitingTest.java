@@ -9,7 +9,7 @@ public final class Promise11WaitingTest {
     }
 
     private static void orderOfBeginning() {
-        MeetingKit kit = Check.kit(4, 2, 1, 10, 0);
+        Kit kit = Check.kit(4, 2, 1, 10, 0);
         Check.script(kit, 0, 1, 2, 0, 1, 2, 0, 0, 0, 0);
         Check.script(kit, 1, 1, 2, 0, 0, 0, 0);
         Check.script(kit, 2, 0, 0, 0);
@@ -24,7 +24,7 @@ public final class Promise11WaitingTest {
     }
 
     private static void goingOutFromTheMiddle() {
-        MeetingKit kit = Check.kit(4, 2, 1);
+        Kit kit = Check.kit(4, 2, 1);
         for (int t = 0; t < 4; t++) {
             Check.script(kit, t, 0, 0, 0, 0, 0, 0);
         }
@@ -36,7 +36,7 @@ public final class Promise11WaitingTest {
     }
 
     private static void allSixteen() {
-        MeetingKit kit = Check.kit(16, 11, 0, 3, 16);
+        Kit kit = Check.kit(16, 11, 0, 3, 16);
         int[] all = new int[15];
         for (int t = 0; t < 16; t++) {
             Check.script(kit, t, 1, 0, 0);
@@ -55,7 +55,7 @@ public final class Promise11WaitingTest {
     }
 
     private static void wrongInputs() {
-        MeetingKit kit = Check.kit(1, 2, 1);
+        Kit kit = Check.kit(1, 2, 1);
         Check.script(kit, 0, 0, 0, 0);
         kit.run(1);
         Check.due("the one that waits", kit.waiting(0, 0), 0);

@@ -9,7 +9,7 @@ public final class Promise12PassedTest {
     }
 
     private static void theOneThatLetsOthersGoIsAhead() {
-        MeetingKit kit = Check.kit(4, 2, 1, 3, 4);
+        Kit kit = Check.kit(4, 2, 1, 3, 4);
         Check.script(kit, 0, 0, 0, 0, 1, 0, 0);
         Check.script(kit, 1, 0, 0, 0, 1, 0, 0);
         Check.script(kit, 2, 0, 0, 0, 1, 0, 0);
@@ -20,7 +20,7 @@ public final class Promise12PassedTest {
     }
 
     private static void onlyThoseThatPassed() {
-        MeetingKit kit = Check.kit(3, 0, 1, 2, 1);
+        Kit kit = Check.kit(3, 0, 1, 2, 1);
         Check.script(kit, 0, 0, 2, 2, 0, 0, 0, 0, 9, 0, 0, 1, 1);
         kit.step(1, 0, 0, 7, 2);
         Check.script(kit, 2, 0, 0, 9);
@@ -31,7 +31,7 @@ public final class Promise12PassedTest {
     }
 
     private static void theFirstThreeHundred() {
-        MeetingKit kit = Check.kit(16, 7, 0, 10, 0);
+        Kit kit = Check.kit(16, 7, 0, 10, 0);
         for (int i = 0; i < 20; i++) {
             for (int t = 0; t < 16; t++) {
                 kit.step(t, 0, 0, 0, 0);
@@ -47,7 +47,7 @@ public final class Promise12PassedTest {
     }
 
     private static void wrongInputs() {
-        MeetingKit kit = Check.kit(1, 2, 0);
+        Kit kit = Check.kit(1, 2, 0);
         Check.script(kit, 0, 0, 0, 0);
         kit.run(1);
         Check.due("the one that passed", kit.passed(0, 0), 0);

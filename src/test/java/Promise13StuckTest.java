@@ -1,7 +1,7 @@
 /** Promise 13: stuck answers those that wait when nothing can happen any more. */
 public final class Promise13StuckTest {
     public static void main(String[] args) {
-        MeetingKit kit = Check.kit(5, 2, 9, 8, 0);
+        Kit kit = Check.kit(5, 2, 9, 8, 0);
         Check.stuck(kit, "nobody waits");
         Check.script(kit, 3, 0, 0, 0);
         Check.stuck(kit, "a step can begin");

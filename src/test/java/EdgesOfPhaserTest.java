@@ -18,6 +18,7 @@ public final class EdgesOfPhaserTest {
         leaveOfNoParty();
         leaveOfOneFromTheNextPhaseOn();
         leaveOfTheLastParty();
+        leaveOfOneThatCame();
         leaveWhenAllOthersCame();
         leaveWhenOneDidNotCome();
         newPhase();
@@ -181,6 +182,18 @@ public final class EdgesOfPhaserTest {
         Check.due("it leaves", then(kit, 0, LEAVE), 0);
         Check.due("the phase", Check.lastValue(kit, 0), 1);
         phaserIs(kit, "nobody is left", 0, 1, 0);
+    }
+
+    /** "it is none any more": nor does its coming count; it joins at once, and may come anew. */
+    private static void leaveOfOneThatCame() {
+        Kit kit = withParties(2, 2);
+        kit.step(0, 0, COME, 0, 1);
+        Check.due("run", kit.run(100), 3);
+        Check.due("it leaves", then(kit, 0, LEAVE), 0);
+        phaserIs(kit, "the other one did not come", 0, 0, 1);
+        Check.due("it joins", then(kit, 0, JOIN), 0);
+        phaserIs(kit, "at once", 0, 0, 2);
+        Check.due("it comes anew", then(kit, 0, COME), 1);
     }
 
     /** "if there is a party left, and all came, the phase is one more as above; VALUE: the phase then." */

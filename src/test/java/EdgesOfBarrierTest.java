@@ -5,6 +5,7 @@ public final class EdgesOfBarrierTest {
         theNthAndTheOneAheadOfIt();
         roundAfterRound();
         brokenForThoseThatCome();
+        brokenForOneWithAnInterrupt();
         anewWithNobody();
         anewWithALine();
         anewWhenItIsBroken();
@@ -76,6 +77,20 @@ public final class EdgesOfBarrierTest {
         Check.ended(kit, "broken", 1, 0, 5, 0, 2, 2);
         Check.ended(kit, "broken", 2, 0, 5, 0, 2, 2);
         Check.state(kit, "nobody waits", 0, 3, 0, 0, 0, 1);
+    }
+
+    /** "0 come: 5 if it is broken": so it would not wait, and an interrupt is still kept for it. */
+    private static void brokenForOneWithAnInterrupt() {
+        Kit kit = thatCome(2, 2, 1);
+        kit.interrupt(0, 2);
+        kit.interrupt(1, 3);
+        Check.due("run", kit.run(9), 3);
+        Check.due("broken", Check.then(kit, 1, 0, 0), 5);
+        Check.due("kept", kit.tell(1, 3), 1);
+        Check.due("anew", Check.then(kit, 1, 1, 0), 0);
+        Check.due("now it would wait", Check.then(kit, 1, 0, 0), 2);
+        Check.due("used", kit.tell(1, 3), 0);
+        Check.state(kit, "and is broken", 0, 3, 0, 0, 0, 1);
     }
 
     /** "1 anew: those that WAIT: 5": if nobody does. */

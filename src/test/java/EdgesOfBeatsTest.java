@@ -22,12 +22,14 @@ public final class EdgesOfBeatsTest {
         interruptOfOneThatDoesNotWait();
         interruptKeptThroughStepsThatDoNotWait();
         interruptKeptWhereEachKindPassesAtOnce();
+        interruptKeptThoughOthersWait();
         interruptUsedWhereEachKindWouldWait();
         oneInterruptIsKept();
         interruptOfOneLetGoInThatBeat();
         closedWithALine();
         closedWithoutALine();
         closedForLaterSteps();
+        closingChangesNothingElse();
         whoEndedSoIsLetGo();
         lineInTheOrderOfBeginning();
         othersLetGoUntilNobodyIs();
@@ -297,6 +299,28 @@ public final class EdgesOfBeatsTest {
         Check.due("kept", kit.tell(0, 3), 1);
     }
 
+    /** "its next STEP that would WAIT": the last one here passes at once, though another one waits there. */
+    private static void interruptKeptThoughOthersWait() {
+        int[][] kinds = {{0, 1}, {3, 2}, {4, 0}, {5, 0}, {6, 0}, {6, 0}, {6, 1}, {7, 0}, {9, 0}};
+        int[][] threadsActsAndNumbers = {
+            {1, 0, 2, 0, 0, 1}, {1, 0, 0, 0, 0, 0}, {1, 0, 4, 0, 0, 5}, {0, 0, 0, 1, 1, 0, 0, 3, 0},
+            {1, 1, 0, 0, 0, 6}, {1, 0, 6, 0, 1, 0}, {1, 0, 6, 1, 0, 7, 0, 1, 0},
+            {1, 0, 0, 1, 0, 0, 1, 2, 0, 1, 1, 1, 0, 1, 0}, {0, 0, 0, 1, 0, 0, 1, 1, 0, 0, 1, 0},
+        };
+        for (int k = 0; k < kinds.length; k++) {
+            int[] steps = threadsActsAndNumbers[k];
+            Kit kit = Check.kit(2, kinds[k]);
+            int last = steps.length - 3;
+            for (int i = 0; i < last; i += 3) {
+                Check.then(kit, steps[i], steps[i + 1], steps[i + 2]);
+            }
+            Check.line(kit, "another one waits", 0, 1);
+            Check.due("interrupt", kit.interrupt(0, last / 3 + 1), true);
+            Check.due("kind " + kinds[k][0], Check.then(kit, 0, steps[last + 1], steps[last + 2]), 0);
+            Check.due("kept", kit.tell(0, 3), 1);
+        }
+    }
+
     /** "its next STEP that would WAIT ends at once with 2": at each kind. */
     private static void interruptUsedWhereEachKindWouldWait() {
         int none = 9;
@@ -380,6 +404,34 @@ public final class EdgesOfBeatsTest {
             Check.due("run", kit.run(50), 10);
             Check.outcomes(kit, "kind " + kind, 0, 4, 4, 4, 4, 4, 4, 4, 4, 4, 4);
             Check.state(kit, "as it was", 0, kind, 0, 1, states[0], states[1]);
+        }
+    }
+
+    /** "CLOSED: all that WAIT at the DEVICE: 4": all that is told of it but its line is as it was. */
+    private static void closingChangesNothingElse() {
+        int[][] kinds = {{0, 3}, {1, 3}, {2, 5}, {4, 0}, {5, 0}, {5, 0}, {6, 2}, {7, 0}, {8, 0}, {9, 0}, {10, 0}, {11, 0}};
+        int[][] threadsActsAndNumbers = {
+            {1, 0, 4}, {1, 0, 4}, {0, 1, 0, 1, 0, 0}, {1, 0, 4},
+            {0, 0, 0, 2, 0, 0, 1, 1, 0}, {2, 1, 0, 1, 0, 0}, {0, 0, 5, 0, 0, 6, 1, 0, 7},
+            {0, 0, 0, 0, 0, 0, 0, 2, 0, 1, 1, 1}, {1, 1, 0}, {0, 0, 0, 1, 0, 0, 2, 0, 0, 1, 1, 0}, {0, 0, 0, 1, 2, 0},
+            {2, 0, 0, 1, 0, 0},
+        };
+        int[][] states = {
+            {3, 0}, {3, 0}, {4, 0}, {0, 0}, {2, NONE}, {0, 2}, {2, 0}, {2, 1}, {0, 0}, {0, 3}, {1, 0}, {1, 2},
+        };
+        for (int k = 0; k < kinds.length; k++) {
+            int[] steps = threadsActsAndNumbers[k];
+            Kit kit = Check.kit(3, kinds[k]);
+            for (int i = 0; i < steps.length; i += 3) {
+                Check.then(kit, steps[i], steps[i + 1], steps[i + 2]);
+            }
+            String kind = "kind " + kinds[k][0];
+            Check.state(kit, kind + ", one waits", 0, kinds[k][0], 1, 0, states[k][0], states[k][1]);
+            int beat = steps.length / 3 + 1;
+            Check.due("close", kit.close(0, beat), true);
+            Check.due("run", kit.run(100), beat);
+            Check.state(kit, kind + ", closed", 0, kinds[k][0], 0, 1, states[k][0], states[k][1]);
+            Check.due("where it waits", kit.tell(1, 2), NONE);
         }
     }
 

@@ -25,6 +25,7 @@ public final class EdgesOfLockTest {
         downgradeOfNoUser();
         upgraderIsLetGoFirst();
         nobodyElseMeanwhile();
+        nobodyElseWhenTheFirstGivesUp();
         upgraderThatGivesUp();
         asLongAsItCanBe();
         usersOneByOne();
@@ -244,6 +245,22 @@ public final class EdgesOfLockTest {
         then(kit, 1, LEAVE, 4);
         Check.line(kit, "neither of them", 0, 0, 3);
         lockIs(kit, "two look", 2, NONE);
+    }
+
+    /** "and nobody else meanwhile": not the looker that is the line's first then, as the upgrader is behind it. */
+    private static void nobodyElseWhenTheFirstGivesUp() {
+        Kit kit = acts(LOOK, LOOK, USE, LOOK);
+        then(kit, 0, UPGRADE, 2);
+        Check.line(kit, "the upgrader is the last", 0, 2, 3, 0);
+        kit.interrupt(2, 3);
+        Check.due("run", kit.run(9), 3);
+        Check.line(kit, "the looker is the first", 0, 3, 0);
+        lockIs(kit, "but no looker yet", 2, NONE);
+        then(kit, 1, LEAVE, 4);
+        Check.line(kit, "nor now", 0, 3);
+        lockIs(kit, "the upgrader is let go", 0, 0);
+        then(kit, 0, DOWNGRADE, 5);
+        lockIs(kit, "now it is one", 2, NONE);
     }
 
     /** "nobody else meanwhile": when it waits no more the line's first on; and it looks all the same. */

@@ -15,11 +15,22 @@ public final class EdgesOfMakingTest {
         stepsOfAScript();
         stepOfNoThread();
         stepAtNoDevice();
+        stepAtAClosedDevice();
         stepWhenItHasTwenty();
         stepWithAnotherAct();
         stepWithAnotherNumber();
         stepWithAnotherPatience();
         Check.end("edges of making");
+    }
+
+    /** Promise 4: "NONE: there is no such .. DEVICE": one that is closed is there; term 1: "later: 4". */
+    private static void stepAtAClosedDevice() {
+        Kit kit = Check.kit(2, 10, 0);
+        Check.due("close", kit.close(0, 1), true);
+        Check.due("run", kit.run(9), 1);
+        Check.due("step", kit.step(1, 0, 2, 0, 0), 1);
+        Check.due("run", kit.run(9), 2);
+        Check.ended(kit, "closed", 1, 0, 4, 0, 2, 2);
     }
 
     private static void refused(String what, ToIntFunction<Kit> call) {

@@ -22,9 +22,12 @@ public final class EdgesOfMonitorTest {
         wakeAllInOrder();
         wakeAllOfFifteen();
         wokenOnesWaitToEnter();
+        wokenOnesAheadOfLaterOnes();
+        wakeRoundAfterRound();
         theFirstThatWaitsToEnter();
         whoGaveUpDoesNotHoldIt();
         interruptKeptByOneThatEntersAtOnce();
+        interruptKeptWhileSomeAreInLines();
         interruptUsedByOneThatWouldWait();
         Check.end("edges of the monitor");
     }
@@ -203,6 +206,44 @@ public final class EdgesOfMonitorTest {
         Check.stuck(kit, "so it is stuck", 1);
     }
 
+    /** "come to the end of the LINE": behind those that wait there, but ahead of those that come later. */
+    private static void wokenOnesAheadOfLaterOnes() {
+        Kit kit = inLines(4, 0);
+        Check.due("enter", Check.then(kit, 1, ENTER, 0), 0);
+        Check.due("it is held", Check.then(kit, 2, ENTER, 0), 1);
+        Check.due("wake", Check.then(kit, 1, WAKE, 0), 0);
+        Check.due("it is held", Check.then(kit, 3, ENTER, 0), 1);
+        Check.line(kit, "between them", 0, 2, 0, 3);
+        int[] holders = {1, 2, 0, 3};
+        for (int holder : holders) {
+            Check.due("holder", kit.state(0, 4), holder);
+            Check.due("leave", Check.then(kit, holder, LEAVE, 0), 0);
+        }
+        Check.passed(kit, "in order", 0, 0, 1, 1, 1, 2, 2, 0, 0, 3, 3);
+    }
+
+    /** "3 wake a": two that wait for one another in turn, up to the last step that a script has. */
+    private static void wakeRoundAfterRound() {
+        Kit kit = Check.kit(2, 11, 0);
+        Check.script(kit, 0, 0, ENTER, 0);
+        Check.script(kit, 1, 0, ENTER, 0);
+        for (int round = 1; round <= 9; round++) {
+            Check.script(kit, 0, 0, WAIT, 0, 0, WAKE, 0);
+            Check.script(kit, 1, 0, WAKE, 0, 0, WAIT, 0);
+        }
+        Check.script(kit, 0, 0, LEAVE, 0);
+        Check.script(kit, 1, 0, LEAVE, 0);
+        Check.due("run", kit.run(100), 39);
+        for (int round = 1; round <= 9; round++) {
+            int beat = 4 * round;
+            Check.ended(kit, "wait", 0, 2 * round - 1, 0, 0, beat - 2, beat);
+            Check.ended(kit, "wake", 0, 2 * round, 0, 1, beat + 1, beat + 1);
+            Check.ended(kit, "wake", 1, 2 * round - 1, 0, 1, beat - 1, beat - 1);
+            Check.ended(kit, "wait", 1, 2 * round, 0, 0, beat, beat + 2);
+        }
+        Check.state(kit, "nobody", 0, 11, 0, 0, 0, NONE);
+    }
+
     /** "if nobody holds it, the first of those that WAIT to enter": one at a time. */
     private static void theFirstThatWaitsToEnter() {
         Kit kit = inLines(4, 0);
@@ -246,6 +287,16 @@ public final class EdgesOfMonitorTest {
         for (int act : all) {
             Check.due("act " + act, Check.then(kit, 0, act, 0), 0);
             Check.due("kept", kit.tell(0, 3), 1);
+        }
+    }
+
+    /** "nobody WAITS to enter": those in the lines do not, so one that enters would not wait. */
+    private static void interruptKeptWhileSomeAreInLines() {
+        for (int line = 0; line <= 3; line++) {
+            Kit kit = inLines(2, line);
+            kit.interrupt(1, 3);
+            Check.due("enter", Check.then(kit, 1, ENTER, 0), 0);
+            Check.due("kept", kit.tell(1, 3), 1);
         }
     }
 

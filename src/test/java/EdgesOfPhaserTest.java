@@ -20,8 +20,10 @@ public final class EdgesOfPhaserTest {
         leaveOfTheLastParty();
         leaveOfOneThatCame();
         leaveWhenAllOthersCame();
+        leaveWhenNobodyWaits();
         leaveWhenOneDidNotCome();
         newPhase();
+        newPhaseForTheLastThread();
         oneThatWaitsNoMoreCame();
         Check.end("edges of the phaser");
     }
@@ -207,6 +209,33 @@ public final class EdgesOfPhaserTest {
         Check.values(kit, "let go with the phase then", 0, 0, 1);
         Check.values(kit, "let go with the phase then", 1, 0, 1);
         Check.passed(kit, "the one that left is ahead", 0, 0, 1, 2, 2, 0, 1);
+    }
+
+    /** "if there is a party left, and all came": though the one that came waits no more. */
+    private static void leaveWhenNobodyWaits() {
+        Kit kit = withParties(2, 2);
+        kit.step(0, 0, COME, 0, 1);
+        Check.due("run", kit.run(100), 3);
+        Check.due("the other one leaves", then(kit, 1, LEAVE), 0);
+        Check.due("the phase then", Check.lastValue(kit, 1), 1);
+        phaserIs(kit, "a new phase", 0, 1, 1);
+        Check.due("nobody came in this one", then(kit, 0, COME), 0);
+        Check.due("the phase then", Check.lastValue(kit, 0), 2);
+    }
+
+    /** "A new phase: nobody came, those that joined are parties": the last thread too. */
+    private static void newPhaseForTheLastThread() {
+        Kit kit = withParties(16, 2);
+        Check.due("it comes", then(kit, 0, COME), 1);
+        Check.due("the last thread joins", then(kit, 15, JOIN), 0);
+        Check.due("the phase is full", then(kit, 1, COME), 0);
+        phaserIs(kit, "it is a party", 0, 1, 3);
+        for (int phase = 2; phase < 4; phase++) {
+            Check.due("it comes", then(kit, 15, COME), 1);
+            Check.due("it comes", then(kit, 0, COME), 1);
+            Check.due("the phase is full", then(kit, 1, COME), 0);
+            Check.due("the phase then", Check.lastValue(kit, 15), phase);
+        }
     }
 
     /** "and all came": one did not. */

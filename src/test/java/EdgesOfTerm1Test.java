@@ -11,6 +11,7 @@ public final class EdgesOfTerm1Test {
         patienceForEver();
         patienceOfOneBeat();
         patienceOfAThousandBeats();
+        patienceUpToTheLastBeat();
         twelveDevices();
         allTwelveAreApart();
         twelveKinds();
@@ -130,6 +131,19 @@ public final class EdgesOfTerm1Test {
         Check.ended(kit, "999 beats behind", 0, 2, 1, 0, 3, 0);
         Check.due("run", kit.run(5000), 1003);
         Check.ended(kit, "a thousand beats behind", 0, 2, 3, 0, 3, 1003);
+    }
+
+    /** "1 .. 1000 beats": over in the last beat of all, or never. */
+    private static void patienceUpToTheLastBeat() {
+        for (int began = 4000; began <= 4001; began++) {
+            Kit kit = Check.kit(2, 2, 1);
+            kit.interrupt(1, began - 1);
+            Check.due("run", kit.run(began - 1), began - 1);
+            kit.step(0, 0, 0, 0, 1000);
+            Check.due("run", kit.run(5000), 5000);
+            boolean isOver = began == 4000;
+            Check.ended(kit, "begun in " + began, 0, 0, isOver ? 3 : 1, 0, began, isOver ? 5000 : 0);
+        }
     }
 
     private static Kit withDevices(int count) {

@@ -11,6 +11,8 @@ public final class LanguageTest {
     private static final List<String> FORBIDDEN = List.of(
             "throw", "throws", "try", "catch", "finally", "synchronized", "assert", "import", "package", "protected",
             "volatile", "native", "Object", "System", "Exception", "Random", "Thread", "toString", "hashCode");
+    private static final List<String> FACE = List.of(
+            "device", "thread", "step", "interrupt", "close", "run", "tell", "outcome", "state", "waiting", "passed", "stuck");
     private static final Pattern TYPE = Pattern.compile("\\b(class|enum|interface|record) [A-Z]\\w*");
     /** A method or a constructor, with its parameters. */
     private static final Pattern METHOD = Pattern.compile(
@@ -25,6 +27,9 @@ public final class LanguageTest {
         Check.due("rule 5: static fields that are not final", count(text, "\\bstatic (?!final|class)\\w+(\\[\\])? \\w+( =|;)"), 0);
         Check.due("rule 11: some twelve classes", count(text, TYPE.pattern()) <= 12, true);
         Check.due("rule 2: classes inside that are not static", count(text, "(?m)^ {4}(?!.*static).*\\bclass "), 0);
+        for (String name : FACE) {
+            Check.due("rule 1: methods named " + name, count(text, "(?m)^ +(?!return )[\\w ]+ " + name + "\\([^)]*\\) \\{$"), 1);
+        }
         methods(text);
         Check.end("language");
     }
